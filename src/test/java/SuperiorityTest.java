@@ -101,6 +101,12 @@ public final class SuperiorityTest {
                 checks.superior(x, from * 13 % 32, to * 13 % 32);
             }
         }
+        for (int from = 0; from < 32; from++) {
+            for (int to = 0; to < 32; to++) {
+                boolean recorded = x.isSuperior(from * 13 % 32, to * 13 % 32);
+                checks.due("isSuperior among all pairs of an order", recorded, from < to);
+            }
+        }
     }
 
     private static void takesManyPathsWithoutCycle() {
