@@ -19,12 +19,8 @@ public final class ComputeTest {
         checks.finish();
     }
 
-    /** The sets are due in the order +D, -D, +d, -d. */
     private static void due(String name, DefeasibleLogic x, int[]... sets) {
-        checks.due(name + ": compute()", x.compute(), sets[2].length);
-        for (int tag = 0; tag < 4; tag++) {
-            checks.dueTagged(name, x, tag, sets[tag]);
-        }
+        checks.dueSets(name, x, sets);
     }
 
     private static int[] set(int... lits) {

@@ -27,6 +27,30 @@ final class Reference {
         }
     }
 
+    /** A copy of the theory that an object holds. */
+    static Reference of(DefeasibleLogic x, int atoms, int maxRules) {
+        Reference copy = new Reference(atoms, maxRules);
+        for (int lit = 0; lit < copy.literals; lit++) {
+            if (x.isFact(lit)) {
+                copy.addFact(lit);
+            }
+        }
+        for (int rule = 0; rule < x.ruleCount(); rule++) {
+            copy.newRule(x.ruleKind(rule), x.ruleHead(rule));
+            for (int index = 0; index < 4; index++) {
+                copy.addBody(rule, x.ruleBody(rule, index));
+            }
+        }
+        for (int stronger = 0; stronger < x.ruleCount(); stronger++) {
+            for (int weaker = 0; weaker < x.ruleCount(); weaker++) {
+                if (x.isSuperior(stronger, weaker)) {
+                    copy.addSuperior(stronger, weaker);
+                }
+            }
+        }
+        return copy;
+    }
+
     void reset() {
         facts.clear();
         rules.clear();

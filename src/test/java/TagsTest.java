@@ -34,23 +34,6 @@ public final class TagsTest {
         checks.due(name + ": winner(1)", x.winner(1), -1);
     }
 
-    private static void checkNotComputed(String name, DefeasibleLogic x) {
-        for (int lit = -2; lit <= 66; lit++) {
-            for (int tag = -2; tag <= 5; tag++) {
-                checks.due(name + ": hasTag(" + lit + ", " + tag + ")", x.hasTag(lit, tag), false);
-            }
-            checks.due(name + ": winner(" + lit + ")", x.winner(lit), -2);
-        }
-        for (int tag = -2; tag <= 5; tag++) {
-            checks.due(name + ": countTag(" + tag + ")", x.countTag(tag), -2);
-        }
-        for (int wrong : Checks.FAR) {
-            checks.due(name + ": countTag(" + wrong + ")", x.countTag(wrong), -2);
-            checks.due(name + ": hasTag(0, " + wrong + ")", x.hasTag(0, wrong), false);
-            checks.due(name + ": hasTag(" + wrong + ", 1)", x.hasTag(wrong, 1), false);
-        }
-    }
-
     private static void answersPerTag() {
         checkComputed("computed", computed());
         DefeasibleLogic x = new DefeasibleLogic(32, 1);
@@ -87,36 +70,36 @@ public final class TagsTest {
 
     private static void notComputed() {
         DefeasibleLogic x = new DefeasibleLogic(3, 4);
-        checkNotComputed("new object", x);
+        checks.dueNotComputed("new object", x);
         x.addFact(0);
-        checkNotComputed("before the first compute", x);
+        checks.dueNotComputed("before the first compute", x);
     }
 
     private static void successTakesTheFlag() {
         DefeasibleLogic x = computed();
         checks.due("addFact(1)", x.addFact(1), true);
-        checkNotComputed("after addFact", x);
+        checks.dueNotComputed("after addFact", x);
 
         x = computed();
         checks.due("newRule(2, 5)", x.newRule(2, 5), 3);
-        checkNotComputed("after newRule", x);
+        checks.dueNotComputed("after newRule", x);
 
         x = computed();
         checks.due("addBody(0, 1)", x.addBody(0, 1), true);
-        checkNotComputed("after addBody", x);
+        checks.dueNotComputed("after addBody", x);
 
         x = computed();
         checks.due("addSuperior(0, 1)", x.addSuperior(0, 1), true);
-        checkNotComputed("after addSuperior", x);
+        checks.dueNotComputed("after addSuperior", x);
 
         x = computed();
         x.reset();
-        checkNotComputed("after reset", x);
+        checks.dueNotComputed("after reset", x);
 
         x = new DefeasibleLogic(3, 4);
         x.compute();
         x.reset();
-        checkNotComputed("after reset of an empty theory", x);
+        checks.dueNotComputed("after reset of an empty theory", x);
     }
 
     private static void refusalKeepsTheFlag() {
@@ -176,6 +159,6 @@ public final class TagsTest {
         x.hasTag(0, 0);
         x.countTag(0);
         x.winner(0);
-        checkNotComputed("queries do not compute", x);
+        checks.dueNotComputed("queries do not compute", x);
     }
 }
