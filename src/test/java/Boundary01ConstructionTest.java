@@ -5,7 +5,8 @@ public final class Boundary01ConstructionTest {
         0, -1, -2, -31, -32, -33, -64, -256, -(1 << 30), Integer.MIN_VALUE + 1, Integer.MIN_VALUE + 32, Integer.MIN_VALUE
     };
     private static final int[] ABOVE = {
-        33, 34, 63, 64, 65, 256, 257, 1 << 16, (1 << 16) + 1, 1 << 30, (1 << 30) + 1, Integer.MAX_VALUE - 1, Integer.MAX_VALUE
+        33, 34, 63, 64, 65, 256, 257, 1 << 16, (1 << 16) + 1, 1 << 30, (1 << 30) + 1,
+        Integer.MAX_VALUE - 1, Integer.MAX_VALUE
     };
 
     public static void main(String[] args) {
@@ -33,14 +34,18 @@ public final class Boundary01ConstructionTest {
         dueRuleLimit(name, x, maxRules);
     }
 
-    /** A shows in the literals that are taken, and in the tags: every one that is no fact is in -D. */
+    /**
+     * A shows in the literals that are taken, and in the tags: every one that is no fact is in -D. The ints
+     * beyond are tried first, while what they might wrap round to is no fact.
+     */
     private static void dueAtoms(String name, DefeasibleLogic x, int atoms) {
         x.reset();
         x.compute();
         checks.due(name + ": countTag(1)", x.countTag(1), 2 * atoms);
-        for (int lit = -1; lit <= 66; lit++) {
+        for (int lit = 130; lit >= -2; lit--) {
             checks.due(name + ": addFact(" + lit + ")", x.addFact(lit), lit >= 0 && lit < 2 * atoms);
         }
+        checks.due(name + ": isFact(" + 2 * atoms + ")", x.isFact(2 * atoms), false);
     }
 
     private static void dueRuleLimit(String name, DefeasibleLogic x, int maxRules) {
@@ -56,7 +61,8 @@ public final class Boundary01ConstructionTest {
             for (int other = 0; other < 32; other++) {
                 for (int near = -1; near <= 1; near++) {
                     DefeasibleLogic x = new DefeasibleLogic((1 << bit) + near, (1 << other) - near);
-                    checks.due("compute() of new(2^" + bit + " + " + near + ", 2^" + other + " - " + near + ")", x.compute(), 0);
+                    String made = "new(2^" + bit + " + " + near + ", 2^" + other + " - " + near + ")";
+                    checks.due(made + ": compute()", x.compute(), 0);
                 }
             }
         }

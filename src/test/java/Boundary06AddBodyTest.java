@@ -142,8 +142,23 @@ public final class Boundary06AddBodyTest {
         checks.dueFalse("addBody(0, 0), there", Theories::mixed, x -> x.addBody(0, 0));
         checks.dueFalse("addBody(0, 1), there", Theories::mixed, x -> x.addBody(0, 1));
         checks.dueFalse("addBody(4, 6), there", Theories::full, x -> x.addBody(4, 6));
+        for (int kind = 0; kind < 2; kind++) {
+            int tried = kind;
+            checks.dueFalse("addBody(0, 10), a full body that holds", () -> fullBodyHolds(tried), x -> x.addBody(0, 10));
+            checks.dueFalse("addBody(0, 2), in a full body that holds", () -> fullBodyHolds(tried), x -> x.addBody(0, 2));
+        }
         checks.dueFalse("addBody(0, 0) without rules", () -> new DefeasibleLogic(1, 1), x -> x.addBody(0, 0));
         checks.dueFalse("addBody(31, 0), packed", Theories::packed, x -> x.addBody(31, 0));
+    }
+
+    /** One more literal in the body would take the conclusion away. */
+    private static DefeasibleLogic fullBodyHolds(int kind) {
+        DefeasibleLogic x = new DefeasibleLogic(6, 1);
+        Theories.rule(x, kind, 0, 2, 4, 6, 8);
+        for (int lit = 2; lit <= 8; lit += 2) {
+            x.addFact(lit);
+        }
+        return x;
     }
 
     private static void theRestStays() {

@@ -42,8 +42,8 @@ public final class Boundary07AddSuperiorTest {
 
     /** Also among the rules that are made after the refused calls. */
     private static void dueNoPairs(String name, DefeasibleLogic x) {
-        while (x.ruleCount() < 32 && x.newRule(1, 0) >= 0) {
-            checks.due(name + ": isSuperior(0, the new rule)", x.isSuperior(0, x.ruleCount() - 1), false);
+        for (int rule = 0; rule < 32; rule++) {
+            x.newRule(1, 0);
         }
         for (int pair = 0; pair < 32 * 32; pair++) {
             checks.due(name + ": isSuperior", x.isSuperior(pair / 32, pair % 32), false);
@@ -197,5 +197,9 @@ public final class Boundary07AddSuperiorTest {
         checks.superior(x, 0, 4);
         due = due.replace("; 1: 1 4", " > 4; 1: 1 4");
         checks.dueSame("theory after addSuperior(0, 4)", Transcript.theory(x), due);
+        x = Theories.mixed();
+        checks.superior(x, 4, 0);
+        due = before.replace("; 5: -1 -1", " > 0; 5: -1 -1");
+        checks.dueSame("theory after addSuperior(4, 0), before a chain", Transcript.theory(x), due);
     }
 }

@@ -22,21 +22,27 @@ public final class Boundary08IsSuperiorTest {
                     checks.superior(x, stronger, weaker);
                     for (int pair = 0; pair < 32 * 32; pair++) {
                         boolean due = pair / 32 == stronger && pair % 32 == weaker;
-                        checks.due("isSuperior(" + pair / 32 + ", " + pair % 32 + ")", x.isSuperior(pair / 32, pair % 32), due);
+                        checks.due("isSuperior(" + pair / 32 + ", " + pair % 32 + ")",
+                            x.isSuperior(pair / 32, pair % 32), due);
                     }
                 }
             }
         }
     }
 
+    /** Chains made from their strongest rule on, from their weakest, and from every third. */
     private static void chains() {
-        DefeasibleLogic x = Theories.withRules(32);
-        for (int rule = 0; rule < 31; rule++) {
-            checks.superior(x, rule, rule + 1);
-        }
-        for (int pair = 0; pair < 32 * 32; pair++) {
-            boolean due = pair / 32 + 1 == pair % 32;
-            checks.due("isSuperior(" + pair / 32 + ", " + pair % 32 + ")", x.isSuperior(pair / 32, pair % 32), due);
+        for (int order : new int[] {1, 30, 3}) {
+            DefeasibleLogic x = Theories.withRules(32);
+            for (int place = 0; place < 31; place++) {
+                int rule = place * order % 31;
+                checks.superior(x, rule, rule + 1);
+            }
+            for (int pair = 0; pair < 32 * 32; pair++) {
+                boolean due = pair / 32 + 1 == pair % 32;
+                checks.due("order " + order + ": isSuperior(" + pair / 32 + ", " + pair % 32 + ")",
+                    x.isSuperior(pair / 32, pair % 32), due);
+            }
         }
     }
 

@@ -33,7 +33,15 @@ public final class Boundary13ComputeTest {
     private static void theSets() {
         checks.test("start with all four empty", Boundary13ComputeTest::startsEmpty);
         checks.test("every valid literal q and every tag is tested", Boundary13ComputeTest::everyLiteral);
-        checks.test("stop after the first round that adds nothing.", Boundary13ComputeTest::manyRounds);
+        checks.test("stop after the first round that adds nothing: many rounds", Boundary13ComputeTest::manyRounds);
+        checks.test("stop after the first round that adds nothing: not after one that adds to +D alone",
+            Boundary13ComputeTest::roundOfPlusDefinite);
+        checks.test("stop after the first round that adds nothing: not after one that adds to -D alone",
+            Boundary13ComputeTest::roundOfMinusDefinite);
+        checks.test("stop after the first round that adds nothing: not after one that adds to +d alone",
+            Boundary13ComputeTest::roundOfPlusDefeasible);
+        checks.test("stop after the first round that adds nothing: not after one that adds to -d alone",
+            Boundary13ComputeTest::roundOfMinusDefeasible);
     }
 
     private static void theConditions() {
@@ -118,16 +126,25 @@ public final class Boundary13ComputeTest {
 
     private static void neverRefused() {
         DefeasibleLogic x = new DefeasibleLogic(1, 1);
-        checks.due("compute() of a new object", x.compute(), 0);
-        checks.due("compute() when computed", x.compute(), 0);
+        dueTaken("a new object", x, 0);
+        dueTaken("a computed theory", x, 0);
         x.reset();
-        checks.due("compute() after reset", x.compute(), 0);
+        dueTaken("a theory after reset", x, 0);
         x.addFact(9);
         x.newRule(9, 9);
-        checks.due("compute() after refused calls", x.compute(), 0);
-        checks.due("compute() of a full theory", Theories.full().compute(), 4);
-        checks.due("compute() of a packed theory", Theories.packed().compute(), 64);
-        checks.due("compute() of 32 rules", Theories.withRules(32).compute() >= 0, true);
+        dueTaken("a theory after refused calls", x, 0);
+        x.newRule(0, 0);
+        dueTaken("rules without facts", x, 1);
+        x.reset();
+        x.addFact(1);
+        dueTaken("facts without rules", x, 1);
+        dueTaken("a full theory", Theories.full(), 4);
+        dueTaken("a packed theory", Theories.packed(), 64);
+    }
+
+    private static void dueTaken(String name, DefeasibleLogic x, int answer) {
+        checks.due(name + ": compute()", x.compute(), answer);
+        checks.due(name + ": countTag(2) after it", x.countTag(2), answer);
     }
 
     private static void again() {
@@ -270,6 +287,51 @@ public final class Boundary13ComputeTest {
                 checks.due("turn " + turn + ": hasTag(" + lit + ", 3)", x.hasTag(lit, 3), !proved);
             }
         }
+    }
+
+    /** Round 3 adds 4 to +D, which then equals +d, and nothing else; round 4 adds 6, which was in no set. */
+    private static void roundOfPlusDefinite() {
+        DefeasibleLogic x = theory(4);
+        x.addFact(0);
+        checks.rule(x, STRICT, 2, 0);
+        checks.rule(x, STRICT, 4, 2);
+        checks.rule(x, STRICT, 6, 4);
+        checks.rule(x, STRICT, 7, 7);
+        checks.rule(x, DEFEASIBLE, 2);
+        checks.rule(x, DEFEASIBLE, 4);
+        due("a strict chain of what is in +d", x, set(0, 2, 4, 6), set(1, 3, 5), set(0, 2, 4, 6), set(1, 3, 5));
+    }
+
+    /** The chain 2, 4, 6 is in no -d, for each has a rule without body that an undecided attack holds up. */
+    private static void roundOfMinusDefinite() {
+        DefeasibleLogic x = theory(5);
+        for (int lit = 2; lit <= 6; lit += 2) {
+            checks.rule(x, STRICT, lit, lit - 2);
+            checks.rule(x, DEFEASIBLE, lit);
+            checks.rule(x, DEFEATER, lit + 1, 8);
+        }
+        checks.rule(x, DEFEASIBLE, 8, 8);
+        due("a strict chain that fails", x, set(), set(0, 1, 2, 3, 4, 5, 6, 7, 8, 9), set(), set(0, 1, 3, 5, 7, 9));
+    }
+
+    private static void roundOfPlusDefeasible() {
+        DefeasibleLogic x = theory(5);
+        checks.rule(x, DEFEASIBLE, 8, 6);
+        checks.rule(x, DEFEASIBLE, 6, 4);
+        checks.rule(x, DEFEASIBLE, 4, 2);
+        checks.rule(x, DEFEASIBLE, 2, 0);
+        checks.rule(x, DEFEASIBLE, 0);
+        due("a chain", x, set(), set(0, 1, 2, 3, 4, 5, 6, 7, 8, 9), set(0, 2, 4, 6, 8), set(1, 3, 5, 7, 9));
+    }
+
+    /** Round 3 adds 2 to -d, which then equals -D, and nothing else; round 4 adds 0 to +d. */
+    private static void roundOfMinusDefeasible() {
+        DefeasibleLogic x = theory(3);
+        checks.rule(x, STRICT, 0, 0);
+        checks.rule(x, DEFEASIBLE, 0);
+        checks.rule(x, DEFEATER, 1, 2);
+        checks.rule(x, DEFEASIBLE, 2, 4);
+        due("an attack that fails late", x, set(), set(1, 2, 3, 4, 5), set(0), set(1, 2, 3, 4, 5));
     }
 
     private static void plusDefiniteWithoutRule() {

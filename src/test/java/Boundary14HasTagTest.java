@@ -1,4 +1,3 @@
-import java.util.List;
 import java.util.function.Consumer;
 
 /** Promise 14: a test for each sentence that names a boundary case. */
@@ -42,13 +41,11 @@ public final class Boundary14HasTagTest {
     private static void flagFalse() {
         dueAllFalse("new object", new DefeasibleLogic(32, 32));
         dueAllFalse("before compute", Theories.packed());
-        List<Consumer<DefeasibleLogic>> changes = List.of(
-            x -> x.addFact(7), x -> x.newRule(0, 0), x -> x.addBody(2, 0), x -> x.addSuperior(3, 4), DefeasibleLogic::reset);
-        for (int change = 0; change < changes.size(); change++) {
+        for (Consumer<DefeasibleLogic> change : Theories.changes()) {
             DefeasibleLogic x = Checks.computed(Theories::mixed).get();
-            checks.due("hasTag(0, 0) before change " + change, x.hasTag(0, 0), true);
-            changes.get(change).accept(x);
-            dueAllFalse("after change " + change, x);
+            checks.due("computed: hasTag(0, 0)", x.hasTag(0, 0), true);
+            change.accept(x);
+            dueAllFalse("after a change", x);
         }
     }
 
@@ -119,7 +116,8 @@ public final class Boundary14HasTagTest {
             x.addFact(fact);
             x.compute();
             for (int lit = 0; lit < 64; lit++) {
-                checks.due("fact " + fact + ": hasTag(" + lit + ", " + tag + ")", x.hasTag(lit, tag), (lit == fact) == ofFact);
+                boolean due = (lit == fact) == ofFact;
+                checks.due("fact " + fact + ": hasTag(" + lit + ", " + tag + ")", x.hasTag(lit, tag), due);
             }
         }
     }

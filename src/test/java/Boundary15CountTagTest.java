@@ -1,4 +1,3 @@
-import java.util.List;
 import java.util.function.Consumer;
 
 /** Promise 15: a test for each sentence that names a boundary case. */
@@ -18,17 +17,12 @@ public final class Boundary15CountTagTest {
         checks.finish();
     }
 
-    private static List<Consumer<DefeasibleLogic>> changes() {
-        return List.of(
-            x -> x.addFact(7), x -> x.newRule(0, 0), x -> x.addBody(2, 0), x -> x.addSuperior(3, 4), DefeasibleLogic::reset);
-    }
-
     /** Never computed, and after each call that sets the flag false. */
     private static void flagFalse() {
         for (int tag = 0; tag < 4; tag++) {
             checks.due("new object: countTag(" + tag + ")", new DefeasibleLogic(1, 1).countTag(tag), -2);
             checks.due("before compute: countTag(" + tag + ")", Theories.mixed().countTag(tag), -2);
-            for (Consumer<DefeasibleLogic> change : changes()) {
+            for (Consumer<DefeasibleLogic> change : Theories.changes()) {
                 DefeasibleLogic x = Checks.computed(Theories::mixed).get();
                 checks.due("computed: countTag(" + tag + ")", x.countTag(tag), new int[] {3, 4, 4, 3}[tag]);
                 change.accept(x);
@@ -50,7 +44,7 @@ public final class Boundary15CountTagTest {
         for (int tag : Ints.outside(4)) {
             checks.due("new object: countTag(" + tag + ")", new DefeasibleLogic(1, 1).countTag(tag), -2);
             checks.due("before compute: countTag(" + tag + ")", Theories.mixed().countTag(tag), -2);
-            for (Consumer<DefeasibleLogic> change : changes()) {
+            for (Consumer<DefeasibleLogic> change : Theories.changes()) {
                 DefeasibleLogic x = Checks.computed(Theories::mixed).get();
                 change.accept(x);
                 checks.due("after a change: countTag(" + tag + ")", x.countTag(tag), -2);

@@ -1,4 +1,3 @@
-import java.util.List;
 import java.util.function.Consumer;
 
 /** Promise 16: a test for each sentence that names a boundary case. */
@@ -28,17 +27,12 @@ public final class Boundary16WinnerTest {
         checks.finish();
     }
 
-    private static List<Consumer<DefeasibleLogic>> changes() {
-        return List.of(
-            x -> x.addFact(7), x -> x.newRule(0, 0), x -> x.addBody(2, 0), x -> x.addSuperior(3, 4), DefeasibleLogic::reset);
-    }
-
     /** Of what is in +d and of what is not; never computed, and after each call that sets the flag false. */
     private static void flagFalse() {
         for (int lit = 2; lit < 8; lit++) {
             checks.due("new object: winner(" + lit + ")", new DefeasibleLogic(4, 4).winner(lit), -2);
             checks.due("before compute: winner(" + lit + ")", Theories.mixed().winner(lit), -2);
-            for (Consumer<DefeasibleLogic> change : changes()) {
+            for (Consumer<DefeasibleLogic> change : Theories.changes()) {
                 DefeasibleLogic x = Checks.computed(Theories::mixed).get();
                 checks.due("computed: winner(" + lit + ")", x.winner(lit), lit == 2 ? 0 : lit == 4 ? 1 : -1);
                 change.accept(x);
@@ -65,16 +59,18 @@ public final class Boundary16WinnerTest {
         }
     }
 
-    /** In -d, and in no set at all; an applicable rule that is beaten is no ground. */
+    /** In -d, and in no set at all; a rule that holds is no ground while an attack stands or is undecided. */
     private static void notConcluded() {
-        DefeasibleLogic x = new DefeasibleLogic(4, 8);
+        DefeasibleLogic x = new DefeasibleLogic(5, 8);
         checks.rule(x, DEFEASIBLE, 0, 0);
         checks.rule(x, STRICT, 2, 2);
         checks.rule(x, DEFEASIBLE, 4);
         checks.rule(x, DEFEASIBLE, 5);
         checks.rule(x, DEFEATER, 6);
+        checks.rule(x, DEFEASIBLE, 8);
+        checks.rule(x, DEFEATER, 9, 0);
         x.compute();
-        for (int lit = 0; lit < 8; lit++) {
+        for (int lit = 0; lit < 10; lit++) {
             checks.due("winner(" + lit + ")", x.winner(lit), DefeasibleLogic.NONE);
         }
         DefeasibleLogic empty = new DefeasibleLogic(32, 1);
@@ -132,7 +128,7 @@ public final class Boundary16WinnerTest {
         for (int lit : Ints.outside(8)) {
             checks.due("new object: winner(" + lit + ")", new DefeasibleLogic(4, 4).winner(lit), -2);
             checks.due("before compute: winner(" + lit + ")", Theories.mixed().winner(lit), -2);
-            for (Consumer<DefeasibleLogic> change : changes()) {
+            for (Consumer<DefeasibleLogic> change : Theories.changes()) {
                 DefeasibleLogic x = Checks.computed(Theories::mixed).get();
                 change.accept(x);
                 checks.due("after a change: winner(" + lit + ")", x.winner(lit), -2);

@@ -73,7 +73,8 @@ public final class BoundaryFlagTest {
         dueTaken("addBody to an empty body", Theories::full, x -> checks.due("addBody", x.addBody(2, 0), true));
         dueTaken("addBody to a body of one", Theories::full, x -> checks.due("addBody", x.addBody(1, 0), true));
         dueTaken("addBody to a body of two", Theories::full, x -> checks.due("addBody", x.addBody(0, 7), true));
-        dueTaken("the last place of a body", BoundaryFlagTest::threeInABody, x -> checks.due("addBody", x.addBody(0, 3), true));
+        dueTaken("the last place of a body", BoundaryFlagTest::threeInABody,
+            x -> checks.due("addBody", x.addBody(0, 3), true));
     }
 
     private static DefeasibleLogic threeInABody() {
@@ -86,7 +87,8 @@ public final class BoundaryFlagTest {
         dueTaken("a pair beside a chain", Theories::full, x -> checks.due("addSuperior", x.addSuperior(0, 3), true));
         dueTaken("a pair at the end of a chain", Theories::full, x -> checks.due("addSuperior", x.addSuperior(3, 4), true));
         dueTaken("a pair before a chain", Theories::full, x -> checks.due("addSuperior", x.addSuperior(4, 0), true));
-        dueTaken("the first pair", () -> Theories.withRules(32), x -> checks.due("addSuperior", x.addSuperior(31, 0), true));
+        dueTaken("the first pair", () -> Theories.withRules(32),
+            x -> checks.due("addSuperior", x.addSuperior(31, 0), true));
     }
 
     private static void resetTakesIt() {

@@ -188,25 +188,32 @@ public final class BoundaryTermsTest {
         }
     }
 
+    /** Chains made from their strongest rule on, and from their weakest. */
     private static void chainsAreNoPairs() {
         for (int length = 3; length <= 32; length++) {
-            DefeasibleLogic x = new DefeasibleLogic(32, 32);
-            x.newRule(1, 0);
-            for (int rule = 1; rule < length - 1; rule++) {
-                x.newRule(1, 2 * rule);
-            }
-            x.newRule(1, 1);
-            for (int rule = 0; rule + 1 < length; rule++) {
-                checks.superior(x, rule, rule + 1);
-            }
-            String chain = "a chain of " + length;
-            checks.due(chain + ": isSuperior of its ends", x.isSuperior(0, length - 1), false);
-            checks.due(chain + ": compute", x.compute(), length - 2);
-            checks.due(chain + ": the first rule does not win", x.hasTag(0, 2), false);
-            checks.superior(x, 0, length - 1);
-            checks.due(chain + " and the pair of its ends: compute", x.compute(), length - 1);
-            checks.due(chain + " and the pair of its ends: the first rule wins", x.hasTag(0, 2), true);
+            dueNoPair(length, true);
+            dueNoPair(length, false);
         }
+    }
+
+    private static void dueNoPair(int length, boolean strongestFirst) {
+        DefeasibleLogic x = new DefeasibleLogic(32, 32);
+        x.newRule(1, 0);
+        for (int rule = 1; rule < length - 1; rule++) {
+            x.newRule(1, 2 * rule);
+        }
+        x.newRule(1, 1);
+        for (int place = 0; place + 1 < length; place++) {
+            int rule = strongestFirst ? place : length - 2 - place;
+            checks.superior(x, rule, rule + 1);
+        }
+        String chain = "a chain of " + length;
+        checks.due(chain + ": isSuperior of its ends", x.isSuperior(0, length - 1), false);
+        checks.due(chain + ": compute", x.compute(), length - 2);
+        checks.due(chain + ": the first rule does not win", x.hasTag(0, 2), false);
+        checks.superior(x, 0, length - 1);
+        checks.due(chain + " and the pair of its ends: compute", x.compute(), length - 1);
+        checks.due(chain + " and the pair of its ends: the first rule wins", x.hasTag(0, 2), true);
     }
 
     /** Every pair is tried, in two orders; among what is recorded no rule leads back to itself. */

@@ -134,12 +134,14 @@ final class Checks {
         };
     }
 
+    /** Two objects have the calls, so that the queries after them on the one cannot hide a change from the other. */
     void dueUnchanged(String name, Supplier<DefeasibleLogic> make, Consumer<DefeasibleLogic> calls) {
-        DefeasibleLogic x = make.get();
-        calls.accept(x);
-        DefeasibleLogic untouched = make.get();
-        dueSame(name + ", the queries after it", Transcript.queries(x), Transcript.queries(untouched));
-        dueSame(name + ", later calls", Transcript.future(x), Transcript.future(untouched));
+        DefeasibleLogic asked = make.get();
+        calls.accept(asked);
+        dueSame(name + ", the queries after it", Transcript.queries(asked), Transcript.queries(make.get()));
+        DefeasibleLogic used = make.get();
+        calls.accept(used);
+        dueSame(name + ", later calls", Transcript.future(used), Transcript.future(make.get()));
     }
 
     /** Adds a rule with its body; the test goes on only if nothing of it is refused. */

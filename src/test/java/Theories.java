@@ -1,4 +1,6 @@
+import java.util.List;
 import java.util.function.BiConsumer;
+import java.util.function.Consumer;
 
 /** Theories that several tests start from. */
 final class Theories {
@@ -29,6 +31,16 @@ final class Theories {
     /** Room for three rules more. */
     static DefeasibleLogic mixed() {
         return mixed(MIXED_RULES + 3);
+    }
+
+    /** Each of the calls that set the flag false, in a form that mixed() takes. */
+    static List<Consumer<DefeasibleLogic>> changes() {
+        return List.of(
+            x -> x.addFact(7),
+            x -> x.newRule(0, 0),
+            x -> x.addBody(2, 0),
+            x -> x.addSuperior(3, 4),
+            DefeasibleLogic::reset);
     }
 
     /** As many rules as there may be. */

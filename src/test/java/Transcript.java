@@ -37,8 +37,9 @@ final class Transcript {
         return out.toString();
     }
 
+    /** The tags first: a query of the theory that took the flag away would hide that another call did so. */
     static String queries(DefeasibleLogic x) {
-        return theory(x) + tags(x);
+        return tags(x) + theory(x);
     }
 
     /** The answers to a long run of later calls, which uses the object up. */
